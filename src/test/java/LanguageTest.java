@@ -1,12 +1,17 @@
 import com.sun.source.tree.ArrayTypeTree;
+import com.sun.source.tree.AssignmentTree;
+import com.sun.source.tree.BinaryTree;
 import com.sun.source.tree.ClassTree;
 import com.sun.source.tree.CompilationUnitTree;
+import com.sun.source.tree.CompoundAssignmentTree;
 import com.sun.source.tree.ExpressionTree;
+import com.sun.source.tree.ForLoopTree;
 import com.sun.source.tree.IdentifierTree;
 import com.sun.source.tree.MethodInvocationTree;
 import com.sun.source.tree.MethodTree;
 import com.sun.source.tree.NewArrayTree;
 import com.sun.source.tree.Tree;
+import com.sun.source.tree.UnaryTree;
 import com.sun.source.tree.VariableTree;
 import com.sun.source.util.JavacTask;
 import com.sun.source.util.SourcePositions;
@@ -33,10 +38,11 @@ public final class LanguageTest extends TreePathScanner<Void, Void> {
     private static final int MAX_DEPTH = 6;
 
     // What may stand in the source; all else (imports, new objects, throw, try, lambdas, null, text ...) may not.
-    // Casts and .length are left out, as the class needs neither and the form alone doesn't tell the allowed ones.
+    // Casts and .length are left out, as the class needs neither and the form alone doesn't tell the allowed ones;
+    // so are while and do, as a for loop shows its end best.
     private static final Set<String> FORMS = new TreeSet<>(Arrays.asList(
         "COMPILATION_UNIT", "CLASS", "METHOD", "VARIABLE", "MODIFIERS", "PRIMITIVE_TYPE", "ARRAY_TYPE", "NEW_ARRAY",
-        "BLOCK", "EXPRESSION_STATEMENT", "RETURN", "IF", "FOR_LOOP", "WHILE_LOOP", "DO_WHILE_LOOP", "SWITCH", "CASE",
+        "BLOCK", "EXPRESSION_STATEMENT", "RETURN", "IF", "FOR_LOOP", "SWITCH", "CASE",
         "BREAK", "CONTINUE", "LABELED_STATEMENT", "EMPTY_STATEMENT", "CONDITIONAL_EXPRESSION", "PARENTHESIZED",
         "IDENTIFIER", "ARRAY_ACCESS", "METHOD_INVOCATION", "ASSIGNMENT", "INT_LITERAL", "LONG_LITERAL",
         "CHAR_LITERAL", "BOOLEAN_LITERAL", "PLUS", "MINUS", "MULTIPLY", "DIVIDE", "REMAINDER", "LEFT_SHIFT",
@@ -53,6 +59,7 @@ public final class LanguageTest extends TreePathScanner<Void, Void> {
     private final SourcePositions positions;
     private final Map<String, Set<String>> callsOf = new TreeMap<>();
     private final Set<String> arrayFields = new TreeSet<>();
+    private final Set<String> constants = new TreeSet<>();
     private String method = "";
     private int wrong = 0;
 
@@ -101,7 +108,11 @@ public final class LanguageTest extends TreePathScanner<Void, Void> {
         for (Tree member : type.getMembers()) {
             if (member instanceof VariableTree) {
                 VariableTree field = (VariableTree) member;
-                fields += field.getModifiers().getFlags().toString().contains("static") ? 0 : 1;
+                String flags = field.getModifiers().getFlags().toString();
+                fields += flags.contains("static") ? 0 : 1;
+                if (flags.contains("static") && flags.contains("final")) {
+                    constants.add(field.getName().toString());
+                }
                 if (field.getType() instanceof ArrayTypeTree) {
                     arrayFields.add(field.getName().toString());
                 }
@@ -169,12 +180,18 @@ public final class LanguageTest extends TreePathScanner<Void, Void> {
         if (lines > MAX_LINES) {
             fault("10", tree, method + " has " + lines + " lines");
         }
-        return super.visitMethod(tree, nothing);
+        super.visitMethod(tree, nothing);
+        method = "";
+        return null;
     }
 
     @Override
     public Void visitMethodInvocation(MethodInvocationTree call, Void nothing) {
-        callsOf.get(method).add(call.getMethodSelect().toString());
+        if (method.isEmpty()) {
+            fault("4 and 5", call, "a field's initialiser calls " + call);
+        } else {
+            callsOf.get(method).add(call.getMethodSelect().toString());
+        }
         for (ExpressionTree argument : call.getArguments()) {
             if (new CallFinder().find(argument)) {
                 fault("10", call, "a call stands inside the arguments of " + call);
@@ -206,8 +223,79 @@ public final class LanguageTest extends TreePathScanner<Void, Void> {
         boolean oneLength = array.getDimensions().size() == 1 && array.getInitializers() == null;
         if (!field || !oneLength) {
             fault("4", array, "an array is not made with a length in a field's initialiser: " + array);
+        } else if (!isLength(array.getDimensions().get(0).toString())) {
+            fault("4", array, "an array's length is neither a literal nor a constant: " + array);
         }
         return super.visitNewArray(array, nothing);
+    }
+
+    private boolean isLength(String text) {
+        return constants.contains(text) || text.matches("[1-9][0-9]*");
+    }
+
+    // A counter that goes up while it is less than a bound, or down while it is more, can't run past an int's end.
+    @Override
+    public Void visitForLoop(ForLoopTree loop, Void nothing) {
+        Tree condition = loop.getCondition();
+        boolean up = condition != null && condition.getKind() == Tree.Kind.LESS_THAN;
+        boolean down = condition != null && condition.getKind() == Tree.Kind.GREATER_THAN;
+        if (!up && !down) {
+            fault("8", loop, "the loop's condition is no counter against a bound: " + condition);
+        } else {
+            String counter = ((BinaryTree) condition).getLeftOperand().toString();
+            String bound = ((BinaryTree) condition).getRightOperand().toString();
+            checkStep(loop, counter, up ? "++" : "--");
+            checkCounterAndBound(loop, counter, bound);
+        }
+        return super.visitForLoop(loop, nothing);
+    }
+
+    private void checkStep(ForLoopTree loop, String counter, String step) {
+        String steps = loop.getUpdate().toString().replace(";", "");
+        if (!steps.equals(counter + step)) {
+            fault("8", loop, "the loop's step is not " + counter + step + " but " + steps);
+        }
+    }
+
+    private void checkCounterAndBound(ForLoopTree loop, String counter, String bound) {
+        Set<String> changed = new ChangeFinder().find(loop.getStatement());
+        if (changed.contains(counter)) {
+            fault("8", loop, "the loop changes its counter " + counter);
+        }
+        boolean name = bound.matches("[A-Za-z]\\w*");
+        if (name ? changed.contains(bound) : !bound.matches("[0-9]+")) {
+            fault("8", loop, "the loop's bound " + bound + " is neither a number nor a name that it leaves alone");
+        }
+    }
+
+    private static final class ChangeFinder extends TreeScanner<Void, Void> {
+        private final Set<String> changed = new TreeSet<>();
+
+        private Set<String> find(Tree tree) {
+            tree.accept(this, null);
+            return changed;
+        }
+
+        @Override
+        public Void visitAssignment(AssignmentTree tree, Void nothing) {
+            changed.add(tree.getVariable().toString());
+            return super.visitAssignment(tree, nothing);
+        }
+
+        @Override
+        public Void visitCompoundAssignment(CompoundAssignmentTree tree, Void nothing) {
+            changed.add(tree.getVariable().toString());
+            return super.visitCompoundAssignment(tree, nothing);
+        }
+
+        @Override
+        public Void visitUnary(UnaryTree tree, Void nothing) {
+            String kind = tree.getKind().name();
+            if (kind.endsWith("INCREMENT") || kind.endsWith("DECREMENT")) {
+                changed.add(tree.getExpression().toString());
+            }
+            return super.visitUnary(tree, nothing);
+        }
     }
 
     // An array's name may stand ahead of an index or as an argument, so it is never assigned, compared or answered.
